@@ -35,11 +35,7 @@ public final class UnitAtlas {
     // ---- making and changing TEXTS
 
     public int text() {
-        if (shelf.isFull()) {
-            return FULL;
-        }
-        shelf.open();
-        return shelf.newest();
+        return shelf.open() == null ? FULL : shelf.newest();
     }
 
     public int units(int t, int n, long w) {
@@ -1384,7 +1380,7 @@ public final class UnitAtlas {
         private final int[] edge = new int[MOST_UNITS + 1];
         private final int[] least = new int[MOST_UNITS + 1];
 
-        /** The BORDER of a PART of 1 or more UNITS, from those of all that it begins with. */
+        /** The BORDER of a PART of 1 or more UNITS, from those of all that it begins with, each below its length. */
         int edgeOf(Text text, int from, int to) {
             if (!text.hasPart(from, to)) {
                 return 0;

@@ -112,6 +112,8 @@ public final class PromisesTest {
         due(FULL, x.point(0, 0x10000));
         due(240, x.point(0, 0xD800));
         due(FULL, x.point(0, 0));
+        x.undo();
+        due(240, x.point(0, 0xFFFF));
 
         promise(5);
         x = atlas("abcd");
@@ -957,7 +959,174 @@ public final class PromisesTest {
         due(1, x.matches(1));
     }
 
+    /** TEXTS of 240 UNITS: all alike, all unlike from 1000 on, those from the end on. */
+    private static void fullTexts() {
+        String unlike = "";
+        for (int u = 0; u < 240; u++) {
+            unlike += (char) (1000 + u);
+        }
+        UnitAtlas x = atlas("a".repeat(240), unlike, "b" + "a".repeat(239));
+        x.reversed(1);
+        dueText(new StringBuilder(unlike).reverse().toString(), x, 3);
+        promise(13);
+        due(240, x.points(1));
+        promise(14);
+        due(1239, x.pointAt(1, 239));
+        due(NONE, x.pointAt(1, 240));
+        promise(15);
+        due(NONE, x.half(1, 0));
+        promise(16);
+        due(0, x.order(1, 1, false));
+        due(0, x.order(1, 1, true));
+        promise(17);
+        due(1, x.equalParts(1, 0, 1, 0, 240));
+        promise(18);
+        due(239, x.suffix(1, 239));
+        due(0, x.suffix(3, 239));
+        promise(19);
+        due(239, x.rank(1, 239));
+        promise(20);
+        due(240, x.common(0, 0, 0));
+        due(1, x.common(0, 0, 239));
+        promise(21);
+        due(0, x.border(1, 240));
+        promise(22);
+        due(0, x.find(0, 0, 0));
+        due(NONE, x.find(0, 0, 1));
+        promise(23);
+        due(1, x.countOf(1, 1));
+        promise(24);
+        due(0, x.wild(0, 2, 'b', 0));
+        promise(25);
+        due(0, x.near(0, 2, 1, 0));
+        due(NONE, x.near(0, 1, 3, 0));
+        promise(29);
+        due(240, x.longestCommon(1, 1, 0));
+        due(239, x.longestCommon(0, 2, 0));
+        due(1, x.longestCommon(0, 2, 2));
+        due(1, x.longestCommon(1, 3, 0));
+        due(239, x.longestCommon(1, 3, 2));
+        promise(30);
+        due(239, x.ofMany(2, 0));
+        due(0, x.ofMany(2, 1));
+        due(0, x.ofMany(1, 1));
+        due(0, x.ofMany(4, 0));
+        promise(31);
+        due(240, x.period(1, 0, 240));
+        promise(32);
+        due(240, x.root(1));
+        promise(33);
+        due(0, x.squares(1));
+        promise(34);
+        due(0, x.runs(1));
+        due(1, x.runs(2));
+        promise(36);
+        due(240, x.palindrome(0, 239));
+        due(1, x.palindrome(0, 478));
+        promise(37);
+        due(240, x.palindromes(1));
+        due(2, x.palindromes(2));
+        promise(38);
+        due(1, x.leastRotation(2));
+        due(239, x.leastRotation(3));
+        promise(39);
+        due(239, x.lyndon(3, 239));
+        due(NONE, x.lyndon(3, 240));
+        promise(40);
+        due(28920, x.parts(1));
+        promise(41);
+        due(4, x.nthPart(1, 239));
+        dueText(unlike, x, 4);
+        due(5, x.nthPart(1, 28919));
+        dueText("" + (char) 1239, x, 5);
+        due(NO, x.nthPart(1, 28920));
+        promise(42);
+        due(1, x.unique(1, 239));
+        promise(43);
+        due(240, x.leastUnique(1));
+        promise(47);
+        due(240, x.distance(1, 0));
+        due(1, x.distance(0, 2));
+        promise(49);
+        due(0, x.subsequence(0, 1));
+        due(1, x.subsequence(1, 3));
+        due(239, x.pair(0, 1));
+        due(240, x.subsequence(1, 1));
+        promise(50);
+        due(239, x.pair(239, 1));
+        for (int way = 0; way < 2; way++) {
+            promise(51);
+            due(240, x.squeeze(1, way));
+            promise(53);
+            due(6 + way, x.expand());
+            dueText(unlike, x, 6 + way);
+        }
+        promise(54);
+        due(240, x.sort(3));
+        due(240, x.sort(0));
+        promise(55);
+        due(-1, x.sorted(240));
+        promise(56);
+        due(8, x.unsort());
+        dueText("a".repeat(240), x, 8);
+        x.sort(1);
+        due(9, x.unsort());
+        dueText(unlike, x, 9);
+    }
+
+    /** UNITS that were taken out leave nothing behind that could be looked at. */
+    private static void takenOut() {
+        UnitAtlas x = atlas("a\uD800\uDC00", "aaaa", "aaaaa", "ab");
+        x.remove(0, 2, 1);
+        x.remove(1, 2, 2);
+        x.remove(2, 3, 2);
+        promise(13);
+        due(2, x.points(0));
+        promise(14);
+        due(0xD800, x.pointAt(0, 1));
+        due(NONE, x.pointAt(0, 2));
+        promise(15);
+        due(1, x.half(0, 0));
+        promise(16);
+        due(-1, x.order(1, 2, false));
+        due(-1, x.order(1, 2, true));
+        due(1, x.order(2, 1, false));
+        promise(20);
+        due(1, x.common(1, 0, 1));
+        promise(23);
+        due(0, x.countOf(1, 2));
+        promise(29);
+        due(2, x.longestCommon(1, 2, 0));
+        promise(36);
+        due(1, x.palindrome(2, 0));
+        due(2, x.palindrome(2, 3));
+        promise(47);
+        due(1, x.distance(1, 2));
+        due(0, x.script(0, 0));
+        due(2, x.script(0, 1));
+        promise(49);
+        due(2, x.subsequence(2, 1));
+        due(1, x.subsequence(1, 3));
+        promise(57);
+        due(2 + 2 + 3 + 2, x.count(3));
+        due(0, x.pattern(2));
+        due(1, x.pattern(3));
+        x.forget();
+        promise(58);
+        due(NO, x.cover(2));
+        due(0, x.matches(2));
+        x.copy(2, 0, 3);
+        x.undo();
+        promise(57);
+        due(9, x.count(3));
+        promise(30);
+        due(1, x.ofMany(4, 0));
+        due(NO, x.ofMany(5, 0));
+    }
+
     public static void main(String[] args) {
+        fullTexts();
+        takenOut();
         making();
         undoing();
         looking();
