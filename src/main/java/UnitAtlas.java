@@ -1391,7 +1391,7 @@ public final class UnitAtlas {
             for (int i = 1; i < size; i++) {
                 edge[i] = b;
                 while (b > 0 && text.unit[from + i] != text.unit[from + b]) {
-                    b = edge[b];
+                    b = Math.min(edge[b], b - 1);
                 }
                 if (text.unit[from + i] == text.unit[from + b]) {
                     b++;
@@ -1578,7 +1578,11 @@ public final class UnitAtlas {
             told.clear();
             int i = 0;
             int j = 0;
-            while (i < first.size || j < second.size) {
+            // Each turn goes on by a UNIT in one text at least.
+            for (int turn = 0; turn < first.size + second.size; turn++) {
+                if (i == first.size && j == second.size) {
+                    break;
+                }
                 int way = CHANGED;
                 if (!isSame(first, i, second, j)) {
                     way = wayOn(first, i, second, j);

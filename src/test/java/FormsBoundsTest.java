@@ -85,6 +85,10 @@ public final class FormsBoundsTest extends Bounds {
         start().text("aba").due(0, "squares", 0).text("abcab").due(0, "squares", 1);
     }
 
+    static void promise33_behindAnotherUnit() {
+        start().text("xaa").due(1, "squares", 0).text("xabab").due(1, "squares", 1).text("xyaaxyaa").due(3, "squares", 2);
+    }
+
     static void promise33_eachPlaceAndEachPCounts() {
         start().text("aaa").due(2, "squares", 0).text("aaaa").due(4, "squares", 1).text("ababa").due(2, "squares", 2);
     }
@@ -151,14 +155,22 @@ public final class FormsBoundsTest extends Bounds {
         rich().due(2, "run", 0, 0).due(4, "run", 0, 1).due(1, "run", 0, 2);
     }
 
-    static void promise35_byBeginningsThenByPeriods() {
-        int[][] rows = {{0, 2, 1}, {0, 6, 3}, {3, 5, 1}};
-        Run run = start().text("aabaab").due(3, "runs", 0);
-        for (int k = 0; k < 3; k++) {
+    private static void runs(String units, int[][] rows) {
+        Run run = start().text(units).due(rows.length, "runs", 0);
+        for (int k = 0; k < rows.length; k++) {
             for (int what = 0; what < 3; what++) {
                 run.due(rows[k][what], "run", k, what);
             }
         }
+    }
+
+    static void promise35_byBeginnings() {
+        runs("ababcc", new int[][] {{0, 4, 2}, {4, 6, 1}});
+        runs("ccabab", new int[][] {{0, 2, 1}, {2, 6, 2}});
+    }
+
+    static void promise35_thenByPeriods() {
+        runs("aabaab", new int[][] {{0, 2, 1}, {0, 6, 3}, {3, 5, 1}});
     }
 
     static void promise35_behindTheLastThereIsNone() {
@@ -291,6 +303,14 @@ public final class FormsBoundsTest extends Bounds {
 
     static void promise38_240UnitsThatFall() {
         start().rising(1000, 240).due(0, "leastRotation", 0).due(1, "reversed", 0).due(239, "leastRotation", 1);
+    }
+
+    static void promise38_240UnitsThatComeAgain() {
+        Run run = start().text("ba");
+        for (int size = 2; size < 240; size = Math.min(2 * size, 240)) {
+            run.call("append", 0, 0, 0, Math.min(size, 240 - size));
+        }
+        run.due(240, "length", 0).due(1, "leastRotation", 0);
     }
 
     static void promise38_noSuchTextIsBad() {

@@ -260,6 +260,13 @@ public final class LookingBoundsTest extends Bounds {
         ordered(Run.row(1000, 239) + "a", Run.row(1000, 239) + "b", true);
     }
 
+    static void promise16_whatWasTakenOutIsNotCompared() {
+        for (boolean byPoints : new boolean[] {false, true}) {
+            start().text("abz").text("aba").due(2, "remove", 0, 2, 1).due(-1, "order", 0, 1, byPoints)
+                .due(1, "order", 1, 0, byPoints).text("abz").due(-1, "order", 0, 2, byPoints);
+        }
+    }
+
     static void promise16_likeTextsAreTheSame() {
         rich().due(4, "copy", 0, 0, 5).due(0, "order", 0, 4, false).due(0, "order", 4, 0, true);
     }

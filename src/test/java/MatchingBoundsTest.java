@@ -83,6 +83,11 @@ public final class MatchingBoundsTest extends Bounds {
             .due(1, "countOf", 0, 3);
     }
 
+    static void promise23_oneUnlikeUnitIsTooMuch() {
+        start().text("aabbb").text("ab").text("aaa").text("bbb").due(1, "countOf", 0, 1).due(0, "countOf", 0, 2)
+            .due(1, "countOf", 0, 3);
+    }
+
     static void promise23_noSuchTextTIsBad() {
         rich().noSuchText(0, "countOf", 0, 1);
     }
@@ -388,6 +393,17 @@ public final class MatchingBoundsTest extends Bounds {
         longest(Run.row(1000, 240), Run.row(1239, 240), 1, 239, 0);
     }
 
+    static void promise29_inTheMiddleOfBoth() {
+        longest("xaby", "zzabw", 2, 1, 2);
+        longest("xabyabc", "zabcw", 3, 4, 1);
+    }
+
+    static void promise29_anEarlierPairLeavesNothing() {
+        start().text("aaaa").text("xa").text("xyz").text("b").due(4, "longestCommon", 0, 0, 0)
+            .due(1, "longestCommon", 0, 1, 0).due(1, "longestCommon", 0, 1, 2).due(1, "longestCommon", 2, 1, 0)
+            .due(0, "longestCommon", 3, 2, 0).due(0, "longestCommon", 3, 2, 1).due(0, "longestCommon", 3, 2, 2);
+    }
+
     static void promise29_anotherWhatIsBad() {
         rich().refusedFor(BAD, 2, NO_WHAT_OF_3, "longestCommon", 0, 1, 0);
     }
@@ -465,6 +481,12 @@ public final class MatchingBoundsTest extends Bounds {
         ofMany(start().text("zab").text("abzabz"), 2, 3, 0, 0);
     }
 
+    static void promise30_theFirstTextMayGoOnWithMore() {
+        ofMany(start().text("xabz").text("aba"), 2, 2, 0, 1);
+        ofMany(start().text("abcaba"), 1, 6, 0, 0);
+        ofMany(start().text("abzaby").text("abx"), 2, 2, 0, 0);
+    }
+
     static void promise30_nothingGoesFromOneTextIntoTheNext() {
         ofMany(start().text("a").text("b").text("ab"), 2, 1, 0, 0);
         ofMany(start().text("xa").text("bx").text("ya").text("bx"), 2, 2, 1, 0);
@@ -478,6 +500,14 @@ public final class MatchingBoundsTest extends Bounds {
         ofMany(ofMany(run, 40, 240, 0, 0), 1, 240, 0, 0).refused(NO, "ofMany", 41, 0);
         ofMany(run.due(239, "remove", 0, 0, 1), 39, 240, 1, 0);
         ofMany(run, 40, 239, 0, 0);
+    }
+
+    static void promise30_40TextsOf240OneOfThemUnlike() {
+        Run run = start().alike('a', 240);
+        for (int t = 1; t < 39; t++) {
+            run.due(t, "copy", 0, 0, 240);
+        }
+        ofMany(ofMany(run.alike('b', 240), 40, 0, 0, 0), 39, 240, 0, 0);
     }
 
     static void promise30_aChangedTextIsSeen() {

@@ -94,7 +94,7 @@ public final class OrderBoundsTest extends Bounds {
 
     static void promise20_itEndsWithTheText() {
         rich().due(2, "common", 0, 0, 3).due(2, "common", 0, 3, 0).due(1, "common", 0, 1, 4)
-            .alike('a', 240).due(1, "common", 4, 0, 239).due(239, "common", 4, 0, 1);
+            .alike('a', 240).due(1, "common", 4, 0, 239).due(1, "common", 4, 239, 0).due(239, "common", 4, 0, 1);
     }
 
     static void promise20_unlikeUnitsHaveNothingInCommon() {
@@ -102,7 +102,7 @@ public final class OrderBoundsTest extends Bounds {
     }
 
     static void promise20_whatWasTakenOutIsNotCompared() {
-        start().alike('a', 10).due(2, "remove", 0, 2, 8).due(1, "common", 0, 0, 1);
+        start().alike('a', 10).due(2, "remove", 0, 2, 8).due(1, "common", 0, 0, 1).due(1, "common", 0, 1, 0);
     }
 
     static void promise20_aPlaceAtLengthIsBad() {
@@ -144,6 +144,14 @@ public final class OrderBoundsTest extends Bounds {
     static void promise21_theGreatestOfSeveral() {
         start().text("abacaba").due(3, "border", 0, 7).due(1, "border", 0, 5).text("aabaaa").due(2, "border", 1, 5)
             .due(2, "border", 1, 6);
+    }
+
+    static void promise21_ofEachBeginning() {
+        int[] borders = {0, 1, 0, 1, 2, 2, 3};
+        Run run = start().text("aabaaab");
+        for (int i = 1; i <= 7; i++) {
+            run.due(borders[i - 1], "border", 0, i);
+        }
     }
 
     static void promise21_i0IsBad() {

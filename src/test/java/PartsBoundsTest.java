@@ -166,6 +166,15 @@ public final class PartsBoundsTest extends Bounds {
             .holds(7, "\u7FFF\u7FFF");
     }
 
+    static void promise44_unitsThatFall() {
+        start().text("baab").due(1, "absent", 0).holds(1, "bb");
+        start().text("cbaabacbbcc").due(1, "absent", 0).holds(1, "ca");
+    }
+
+    static void promise44_manyLikeUnits() {
+        start().alike('a', 200).alike('b', 40).due(240, "append", 0, 1, 0, 40).due(2, "absent", 0).holds(2, "ba");
+    }
+
     static void promise44_240UnlikeUnits() {
         start().rising(1000, 240).due(1, "absent", 0).holds(1, "\u03E8\u03E8").due(2, "reversed", 0).due(3, "absent", 2)
             .holds(3, "\u03E8\u03E8");

@@ -36,6 +36,16 @@ public final class StepsBoundsTest extends Bounds {
             .due(240, "script", 1, 1).due(1240, "script", 1, 2);
     }
 
+    static void promise47_anEarlierPairLeavesNothing() {
+        start().text("xyz").text("abc").text("a").text("b").due(3, "distance", 0, 1).due(1, "distance", 2, 3)
+            .due(3, "distance", 1, 0).due(1, "distance", 3, 2).due(0, "distance", 2, 2);
+    }
+
+    static void promise47_whatWasTakenOutIsNotCompared() {
+        start().text("abc").text("abc").due(2, "remove", 1, 2, 1).due(1, "distance", 0, 1).due(1, "script", 0, 0)
+            .due(2, "script", 0, 1).due(1, "distance", 1, 0).due(0, "script", 0, 0).due('c', "script", 0, 2);
+    }
+
     static void promise47_noSuchTextTIsBad() {
         rich().noSuchText(0, "distance", 0, 1);
     }
@@ -155,6 +165,19 @@ public final class StepsBoundsTest extends Bounds {
     static void promise49_pairsRiseInBoth() {
         start().text("ab").text("ba").due(1, "subsequence", 0, 1).rising(1000, 240).due(3, "reversed", 2)
             .due(1, "subsequence", 2, 3);
+    }
+
+    static void promise49_anEarlierPairLeavesNothing() {
+        start().text("xyz").text("abc").text("ax").text("ba").due(3, "distance", 0, 1).due(1, "subsequence", 2, 3)
+            .due(3, "subsequence", 0, 0).due(0, "subsequence", 0, 1).due(1, "subsequence", 2, 3);
+    }
+
+    static void promise49_240UnitsWithoutALikeOne() {
+        start().alike('a', 240).text("xyz").due(0, "subsequence", 0, 1).due(0, "subsequence", 1, 0);
+    }
+
+    static void promise49_whatWasTakenOutIsNotPaired() {
+        start().text("abc").text("abc").due(2, "remove", 1, 2, 1).due(2, "subsequence", 0, 1).due(2, "subsequence", 1, 0);
     }
 
     static void promise49_noSuchTextTIsBad() {
