@@ -536,10 +536,8 @@ public final class UnitAtlas {
     }
 
     public int expand() {
-        if (shelf.isFull()) {
-            return FULL;
-        }
-        if (squeezer.way == NONE) {
+        // FULL comes ahead of NO.
+        if (squeezer.way == NONE && !shelf.isFull()) {
             return NO;
         }
         Text fresh = shelf.open();
@@ -564,10 +562,8 @@ public final class UnitAtlas {
     }
 
     public int unsort() {
-        if (shelf.isFull()) {
-            return FULL;
-        }
-        if (sorter.lastUnits.rows == 0) {
+        // FULL comes ahead of NO.
+        if (sorter.lastUnits.rows == 0 && !shelf.isFull()) {
             return NO;
         }
         Text fresh = shelf.open();

@@ -17,15 +17,19 @@ abstract class Bounds {
 
     /**
      * TEXTS 0 "abaab", 1 "ab", 2 "", 3 "a"; a TEXT 4 "xyz" was taken back; PATTERNS 0 "ab", 1 "a"; 8 CHANGES;
-     * all that can be found has been found of TEXT 0 (and 1).
+     * all that can be found has been found of TEXT 0 (and 1), but it is neither squeezed nor sorted.
      */
-    static Run rich() {
+    static Run found() {
         return start().text("abaab").text("ab").text("").text("a").text("xyz")
             .due(1, "undo").due(1, "undo")
             .due(0, "pattern", 1).due(1, "pattern", 3)
             .due(5, "matches", 0).due(1, "runs", 0).due(3, "cover", 0)
-            .due(3, "distance", 0, 1).due(2, "subsequence", 0, 1)
-            .due(4, "squeeze", 0, 0).due(3, "sort", 0);
+            .due(3, "distance", 0, 1).due(2, "subsequence", 0, 1);
+    }
+
+    /** The same with TEXT 0 squeezed and sorted. */
+    static Run rich() {
+        return found().due(4, "squeeze", 0, 0).due(3, "sort", 0);
     }
 
     /** The same with 40 TEXTS. */

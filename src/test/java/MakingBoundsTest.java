@@ -441,6 +441,11 @@ public final class MakingBoundsTest extends Bounds {
 
     static void promise10_noneIsKept() {
         start().refused(NO, "undo").text("").due(1, "undo").refused(NO, "undo").due(0, "count", 2);
+        Run run = rich();
+        for (int n = 8; n > 0; n--) {
+            run.due(n, "count", 2).due(1, "undo");
+        }
+        run.refused(NO, "undo").due(0, "count", 0).due(2, "count", 1);
     }
 
     static void promise10_eachKindOfChangeIsTakenBack() {

@@ -126,6 +126,7 @@ public final class WaysBackBoundsTest extends Bounds {
 
     static void promise53_noneWasSqueezed() {
         start().refused(NO, "expand").text("a").refused(NO, "expand").refused(BAD, "squeeze", 0, 2).refused(NO, "expand");
+        found().due(3, "sort", 0).refused(NO, "expand").refused(BAD, "squeeze", 4, 0).refused(NO, "expand");
     }
 
     static void promise53_noItemsAreATextOfNoUnits() {
@@ -170,7 +171,7 @@ public final class WaysBackBoundsTest extends Bounds {
     }
 
     static void promise53_fullComesAheadOfNo() {
-        start().until(40).refused(FULL, "expand").due(1, "undo").refused(NO, "expand");
+        found().due(3, "sort", 0).until(40).refused(FULL, "expand").due(1, "undo").refused(NO, "expand");
     }
 
     // ---- 54: sort
@@ -235,6 +236,7 @@ public final class WaysBackBoundsTest extends Bounds {
 
     static void promise56_noneWasSorted() {
         start().refused(NO, "unsort").text("a").refused(NO, "unsort").refused(BAD, "sort", 1).refused(NO, "unsort");
+        found().due(4, "squeeze", 0, 0).refused(NO, "unsort").refused(BAD, "sort", 4).refused(NO, "unsort");
     }
 
     static void promise56_aSortedTextOfNoUnits() {
@@ -273,7 +275,7 @@ public final class WaysBackBoundsTest extends Bounds {
     }
 
     static void promise56_fullComesAheadOfNo() {
-        start().until(40).refused(FULL, "unsort").due(1, "undo").refused(NO, "unsort");
+        found().due(4, "squeeze", 0, 0).until(40).refused(FULL, "unsort").due(1, "undo").refused(NO, "unsort");
     }
 
     // ---- 57: count
