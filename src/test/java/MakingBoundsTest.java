@@ -28,6 +28,17 @@ public final class MakingBoundsTest extends Bounds {
         one.due(4, "count", 0).due(2, "count", 1).due(8, "count", 2).holds(0, "abaab").due(2, "run", 0, 0);
     }
 
+    static void promise1_the512thCallIsAnsweredAsTheFirst() {
+        Run run = rich();
+        while (run.room() > 3) {
+            run.due(4, "copy", 0, 1, 4).due(1, "undo");
+        }
+        while (run.room() > 1) {
+            run.due(5, "length", 0);
+        }
+        run.due(2, "ofMany", 2, 0);
+    }
+
     // ---- 2: text
 
     static void promise2_textsAreNumberedFrom0On() {

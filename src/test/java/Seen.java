@@ -5,7 +5,7 @@ import java.util.List;
 enum Seen {
     TEXTS, ONE_BACK, ALL_BACK, TOLD, WAYS_BACK, PATTERNS, ORDERS;
 
-    private static final int NO = -4;
+    private static final int FULL = -3, NO = -4;
     private static final int ROWS = 12;
 
     /** Asks at most so many calls, and tells each with its answer. */
@@ -88,11 +88,14 @@ enum Seen {
         }
     }
 
-    /** Behind an undo(), so that there is room for a TEXT even if there was none. */
+    /** Behind an undo() if there is no room for a TEXT. */
     private static void waysBack(Look look) {
         for (String way : new String[] {"expand", "unsort"}) {
-            look.ask("undo");
             int t = look.ask(way);
+            if (t == FULL) {
+                look.ask("undo");
+                t = look.ask(way);
+            }
             int size = look.ask("length", t);
             for (int i = 0; i < size && i < ROWS; i++) {
                 look.ask("at", t, i);
