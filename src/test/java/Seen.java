@@ -103,9 +103,12 @@ enum Seen {
         }
     }
 
+    /** In all TEXTS, and in one more, "abaa", since there may be none. */
     private static void patterns(Look look) {
+        int more = look.ask("text");
+        look.ask("units", more, 4, 0x0061_0062_0061_0061L);
         int made = look.ask("count", 0);
-        for (int t = 0; t < made; t++) {
+        for (int t = made - 1; t >= 0; t--) {
             int found = look.ask("matches", t);
             for (int k = 0; k < found && k < ROWS; k++) {
                 look.ask("match", k, 0);
