@@ -399,9 +399,9 @@ public final class MatchingBoundsTest extends Bounds {
     }
 
     static void promise29_anEarlierPairLeavesNothing() {
-        start().text("aaaa").text("xa").text("xyz").text("b").due(4, "longestCommon", 0, 0, 0)
-            .due(1, "longestCommon", 0, 1, 0).due(1, "longestCommon", 0, 1, 2).due(1, "longestCommon", 2, 1, 0)
-            .due(0, "longestCommon", 3, 2, 0).due(0, "longestCommon", 3, 2, 1).due(0, "longestCommon", 3, 2, 2);
+        start().text("aaaa").text("xa").text("ba").text("q").due(4, "longestCommon", 0, 0, 0)
+            .due(1, "longestCommon", 0, 1, 0).due(1, "longestCommon", 2, 1, 1).due(0, "longestCommon", 3, 1, 1)
+            .due(1, "longestCommon", 2, 1, 2).due(0, "longestCommon", 3, 1, 2).due(0, "longestCommon", 3, 1, 0);
     }
 
     static void promise29_anotherWhatIsBad() {

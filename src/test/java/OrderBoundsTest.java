@@ -152,6 +152,7 @@ public final class OrderBoundsTest extends Bounds {
         for (int i = 1; i <= 7; i++) {
             run.due(borders[i - 1], "border", 0, i);
         }
+        start().text("abcabb").due(2, "border", 0, 5).due(0, "border", 0, 6);
     }
 
     static void promise21_i0IsBad() {

@@ -170,6 +170,8 @@ public final class StepsBoundsTest extends Bounds {
     static void promise49_anEarlierPairLeavesNothing() {
         start().text("xyz").text("abc").text("ax").text("ba").due(3, "distance", 0, 1).due(1, "subsequence", 2, 3)
             .due(3, "subsequence", 0, 0).due(0, "subsequence", 0, 1).due(1, "subsequence", 2, 3);
+        start().text("xxxx").text("yyyy").text("aya").text("xa").due(4, "distance", 0, 1).due(1, "subsequence", 2, 3)
+            .due(0, "pair", 0, 0).due(1, "pair", 0, 1);
     }
 
     static void promise49_240UnitsWithoutALikeOne() {
